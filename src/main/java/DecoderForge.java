@@ -1222,20 +1222,20 @@ public final class DecoderForge {
             longest = 0;
             crowd = 0;
             first = greedyBit(t, forms.allOfThem());
-            grow(t, forms.allOfThem(), 0);
+            grow(this, t, forms.allOfThem(), 0);
         }
 
-        private void grow(int untested, int among, int depth) {
-            int bit = depth < TREE_BITS ? greedyBit(untested, among) : NONE;
+        private static void grow(Trees tree, int untested, int among, int depth) {
+            int bit = depth < TREE_BITS ? tree.greedyBit(untested, among) : NONE;
             if (bit == NONE) {
-                longest = Math.max(longest, depth);
-                crowd = Math.max(crowd, Integer.bitCount(among));
+                tree.longest = Math.max(tree.longest, depth);
+                tree.crowd = Math.max(tree.crowd, Integer.bitCount(among));
                 return;
             }
-            tests++;
+            tree.tests++;
             int rest = untested & ~(1 << bit);
-            grow(rest, among & ~ones[bit], depth + 1);
-            grow(rest, among & ~zeros[bit], depth + 1);
+            grow(tree, rest, among & ~tree.ones[bit], depth + 1);
+            grow(tree, rest, among & ~tree.zeros[bit], depth + 1);
         }
 
         private int candidatesFor(int t, int word) {

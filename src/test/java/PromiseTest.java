@@ -976,6 +976,38 @@ public final class PromiseTest {
         due(39, "and it is another form", y.means(0), NONE);
     }
 
+    /** What an earlier text, tree or image left in its rooms must not show in a later one. */
+    static void usedAgain() {
+        DecoderForge x = new DecoderForge();
+        due(4, "a fault behind a whole form", text(x, "pa:1wwwwWWWW...,w#1,W#2;px"), -10 - 26);
+        due(4, "another text", text(x, "jb:.........0.."), 1);
+        int[] told = {1, 4, 0, 0, 0, 1};
+        for (int what = 0; what < 6; what++) due(5, "formOf(0, " + what + ")", x.formOf(0, what), told[what]);
+        due(19, "no field w", x.field(0, 0, 0), NONE);
+        due(9, "no rules", x.fits(0), 1);
+        x.image();
+        text(x, "pc:WWWW.....0.0;pd:0........0..;pe:...........1");
+        due(8, "over", x.means(0x801), MIXED);
+        due(14, "clashes", x.odd(2), 5);
+        due(16, "one way", x.greedy(0x805, 1), 3);
+        due(16, "no way", x.greedy(0, 1), 0);
+        due(16, "the most", x.greedy(0, 3), 4);
+        due(16, "fewer", x.greedy(0x805, 3), 3);
+        x.back();
+        text(x, "pw:xxxxxxxxyyyy;pd:1.........1.");
+        due(19, "W no more", x.field(1, 4, 1), NONE);
+        due(20, "x of eight", x.taken(1, 1, 0xFFF), 255);
+        due(14, "clash", x.clash(0, 0), 1);
+        due(14, "witness", x.clash(0, 1), 0x802);
+        due(14, "of three", x.odd(2), 3);
+        due(10, "over no more", x.over(1, 0), 0);
+        due(16, "the bits that are fixed now", x.greedy(0x805, 0), 3);
+        due(16, "the bits that are fixed now", x.greedy(0x001, 2), NONE);
+        due(17, "bit 0", with("pa:...........0").least(1, 0), 1);
+        due(17, "bit 0 first", with("pa:...........0").least(1, 1), 0);
+        due(18, "bit 0", with("pa:...........0;pb:...........1").leaf(1, 5), 2);
+    }
+
     static void counts() {
         DecoderForge x = with(WAYS);
         x.put(0, 0x100);
@@ -1024,6 +1056,7 @@ public final class PromiseTest {
         costs();
         takingBack();
         images();
+        usedAgain();
         counts();
         System.out.println("PromiseTest: " + asked + " answers, " + wrong + " not as due");
         if (wrong != 0) System.exit(1);
