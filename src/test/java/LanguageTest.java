@@ -40,8 +40,19 @@ public final class LanguageTest {
         }
     }
 
+    /** Signs 1 to 127 alone, and no line so long that it isn't read. */
+    static void signs() throws java.io.IOException {
+        int at = 0;
+        for (String row : java.nio.file.Files.readAllLines(java.nio.file.Path.of(SOURCE))) {
+            at++;
+            check(row.chars().allMatch(c -> c >= 32 && c < 127), "another sign (line " + at + ")");
+            check(row.length() <= 120, "a long line (line " + at + ")");
+        }
+    }
+
     public static void main(String[] args) throws Exception {
         face();
+        signs();
         JavaCompiler compiler = ToolProvider.getSystemJavaCompiler();
         StandardJavaFileManager files = compiler.getStandardFileManager(null, null, null);
         JavacTask task = (JavacTask) compiler.getTask(null, files, null, List.of("-proc:none"), null,
@@ -160,6 +171,22 @@ public final class LanguageTest {
                 }
             }
             return super.visitMethodInvocation(tree, none);
+        }
+
+        /** Static arrays are never changed: they are read by index alone, and nothing of them is handed on. */
+        @Override public Void visitIdentifier(IdentifierTree tree, Void none) {
+            Element named = trees.getElement(getCurrentPath());
+            boolean row = named != null && named.getKind() == ElementKind.FIELD && named.asType().toString().endsWith("[]")
+                    && named.getModifiers().contains(javax.lang.model.element.Modifier.STATIC);
+            if (row) {
+                TreePath around = getCurrentPath().getParentPath();
+                boolean read = around.getLeaf() instanceof ArrayAccessTree access && access.getExpression() == tree;
+                Tree outer = around.getParentPath().getLeaf();
+                boolean changed = outer instanceof AssignmentTree set && set.getVariable() == around.getLeaf()
+                        || outer instanceof CompoundAssignmentTree || outer instanceof UnaryTree;
+                check(read && !changed, "a static array that isn't only read" + at(tree));
+            }
+            return super.visitIdentifier(tree, none);
         }
 
         @Override public Void visitForLoop(ForLoopTree tree, Void none) {
